@@ -512,15 +512,11 @@ public final class CogFamily {
         return set;
     }
 
-    private boolean areAllIn(int set, int n) {
-        return (feastsIn(n) & set) == set;
-    }
-
     /** In how many days, most at most, all FEASTS of a SET are. */
     private int dayOfAll(int set, int most) {
         int leader = leaderOf(set);
         if (leader == NONE) {
-            return areAllIn(set, 0) ? 0 : NONE;
+            return (feastsIn(0) & set) == set ? 0 : NONE;
         }
         // behind a whole round the same days come again
         long last = Math.min(most, roundOfAll() - 1);
@@ -532,7 +528,7 @@ public final class CogFamily {
         long at = leftOver(now.places[w] * parts + motion.above[w] * ((long) now.day - now.mark), circle);
         long from = works.feastPlaces[leader] * parts;
         for (int n = 0; n <= last; n++) {
-            if (at >= from && at < from + parts && areAllIn(set, n)) {
+            if (at >= from && at < from + parts && (feastsIn(n) & set) == set) {
                 return n;
             }
             at += step;
