@@ -217,7 +217,7 @@ public final class CogFamily {
     }
 
     public int again() {
-        long round = roundOfAll();
+        long round = roundOf(motion.turning);
         return round < 1 || round > MOST_AGAIN ? NONE : (int) round;
     }
 
@@ -519,7 +519,7 @@ public final class CogFamily {
             return (feastsIn(0) & set) == set ? 0 : NONE;
         }
         // behind a whole round the same days come again
-        long last = Math.min(most, roundOfAll() - 1);
+        long last = Math.min(most, roundOf(wheelsOf(set)) - 1);
         int w = works.feastWheels[leader];
         // parts of a tooth: so a day is a sum, not a division
         long parts = motion.below[w];
@@ -553,11 +553,22 @@ public final class CogFamily {
         return leader;
     }
 
-    /** Days in which all that turn come to where they are; 0: nothing turns; it is cut short above MOST_AGAIN. */
-    private long roundOfAll() {
-        long round = motion.turning == 0 ? 0 : 1;
+    private int wheelsOf(int set) {
+        int wheels = 0;
+        for (int f = 0; f < works.feasts; f++) {
+            if ((set >> f & 1) == 1) {
+                wheels |= 1 << works.feastWheels[f];
+            }
+        }
+        return wheels;
+    }
+
+    /** Days in which those of some that turn stand again as they do; 0: none turns; it is cut short above MOST_AGAIN. */
+    private long roundOf(int wheels) {
+        int turning = wheels & motion.turning;
+        long round = turning == 0 ? 0 : 1;
         for (int w = 0; w < works.wheels && round <= MOST_AGAIN; w++) {
-            if (motion.turns(w)) {
+            if ((turning >> w & 1) == 1) {
                 int teeth = works.teeth[w];
                 long own = motion.below[w] * teeth / common(motion.above[w], teeth);
                 round = round / common(round, own) * own;
@@ -764,11 +775,11 @@ public final class CogFamily {
         int wheels, links, feasts, driven, teethADay = 1;
         final int[] teeth = new int[MOST_WHEELS];
         final int[] starts = new int[MOST_WHEELS];
-        // a row more than a text may tell: there a hidden LINK is tried
+        final int[] slipOdds = new int[MOST_LINKS];
+        // these have a row more than a text may tell: there a hidden LINK is tried
         final int[] kinds = new int[MOST_LINKS + 1];
         final int[] ones = new int[MOST_LINKS + 1];
         final int[] others = new int[MOST_LINKS + 1];
-        final int[] slipOdds = new int[MOST_LINKS + 1];
         final int[] feastWheels = new int[MOST_FEASTS];
         final int[] feastPlaces = new int[MOST_FEASTS];
 

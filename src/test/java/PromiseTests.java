@@ -224,6 +224,123 @@ public final class PromiseTests {
         due("5 what rests cannot bind", of("w6 0;w6 0;w6 0;lm1 2 0;lb1 2 0;").told(8), 0);
     }
 
+    private static void moreOf3to9() {
+        CogFamily x = of("w 3 0; w 3 0; l m 0 1 0; l m 0 1 0;");
+        feed(x, "w 3 0");
+        due("3 no letter of the text before", x.clock(), -11);
+        due("4 the end", x.fault(), 5);
+        feed(x, "w 3 0; w 3 0; l");
+        due("3 no KIND of the text before", x.clock(), -11);
+        due("4 the end", x.fault(), 15);
+        due("3 empty", x.clock(), 0);
+        due("5 nothing turns", x.told(10), 0);
+        due("5 nobody is driven", x.told(6), NONE);
+        due("6 nobody", x.wheel(0, 0), UNKNOWN);
+        x = of("w 3 0; f 0 0; f 0 1;");
+        due("5 today", x.told(14), 1);
+        x.days(1);
+        due("5 today", x.told(14), 2);
+        x.days(1);
+        due("5 none today", x.told(14), 0);
+        due("8 unknown low", x.feast(-1, 0), UNKNOWN);
+    }
+
+    private static void moreOf10to14() {
+        CogFamily x = of(FAMILY);
+        for (int i = 0; i < 90; i++) {
+            x.days(9999);
+        }
+        x.days(90);
+        due("10 not full at 900000", x.days(9999), 909999);
+        due("14 all thirty", x.undo(30), 62 * 9999);
+        due("12 most", x.slip(0, 99), (int) (62L * 9999 * 3 + 99) % 12);
+        due("12 least", x.slip(0, -99), (int) (62L * 9999 * 3) % 12);
+        x = of(FAMILY);
+        x.cut(0, true);
+        due("11 rests", x.told(10), 1);
+        x.undo(1);
+        due("14 turns again", x.told(10), 15);
+        x.cut(0, true);
+        x.keep(1);
+        x.cut(0, false);
+        x.goBack(1);
+        due("34 rests again", x.told(10), 1);
+    }
+
+    private static void moreOf15to28() {
+        CogFamily x = of("w 3 0; w 5 0; f 0 2; f 1 0;");
+        due("15 the last of a round", x.next(0), 2);
+        x.days(1);
+        x.slip(0, 1);
+        due("15 today, from THE MARK", x.next(0), 0);
+        x.days(1);
+        due("15 from THE MARK", x.next(0), 2);
+        x.slip(1, 1);
+        due("16 one at rest, never", x.together(3), NONE);
+        due("17 in a day", of("w 3 1; d 0 3;").again(), 1);
+        due("17 none but one", of("w 3 1; w 4 1; d 0 30;").again(), 1);
+        due("18 today", of("w 3 1;").added(0, 0, 0, NONE), 28);
+        due("18 the last place", of("w 3 1;").added(0, 29, 1, NONE), 1);
+        due("18 the last place", of("w 3 1;").added(0, 29, 1, 0), 30);
+        // 9999 and 1 is a number of 4s
+        due("18 the last day", of("w 3 1;").added(0, 1, 9999, 0), 4);
+
+        due("15 at 0 behind a whole turn", of("w 3 1; f 0 0;").next(0), 2);
+        due("20 an axle takes no idler", of("w 3 0; w 6 0; la 0 1 0; lb 0 1 0;").idlers(0, 1, 0), NONE);
+        x = of("w 3 0;w 4 0;w 5 0;w 6 0;w 7 0;w 8 0;w 9 0;w 10 0;lb 0 1 10;lb 1 2 10;f 0 1;f 1 1;f 2 1;f 3 0;f 4 0;f 2 3;");
+        due("25 of eight", x.hidden(7, 1, 1, NONE), 3);
+        due("25 of eight", x.hidden(7, 1, 1, 2), 207);
+        due("24 what was tried is no LINK", x.slips(2, 1), 980100000);
+        due("12 of eight", x.slip(7, 1), 1);
+        due("16 of six", x.together(63), NONE);
+        due("16 of six", x.together(31), 1);
+        due("17 of eight", x.again(), 60);
+        due("16 unknown seventh", x.together(64), UNKNOWN);
+
+        // one LINK cut where it is worn later than two others together
+        x = of("w 3 0;w 3 0;w 3 0;lb 0 1 0;lb 0 1 0;lb 1 2 0;");
+        due("22 one later, not two ahead", x.rest(4, 0), 1);
+        due("22 one later, not two ahead", x.rest(4, 1), 4);
+        x = of("w 3 0;w 3 0;w 3 0;lb 0 1 0;lb 0 1 0;lm 1 2 0;lm 0 1 0;");
+        due("21 one later, not two ahead", x.free(1), 8);
+        due("20 beside a belt", of("w 3 0;w 3 0;w 3 0;lm 0 1 0;lm 0 1 0;lm 1 0 0;lb 0 1 0;lm 1 2 0;").idlers(1, 2, 1), 23);
+        due("20 all three", of("w 3 0;w 3 0;w 3 0;lm 0 1 0;lm 0 1 0;la 1 2 0;lm 1 0 0;").idlers(0, 2, 1), 11);
+        due("20 three in a round", of("w 3 0;w 3 0;w 3 0;lm 0 1 0;lm 1 0 0;lm 1 2 0;lm 0 1 0;lm 2 0 0;").idlers(1, 2, 1), 4);
+        due("20 one later, not two", of("w 3 0;w 3 0;w 3 0;w 3 0;lm 0 1 0;lm 0 1 0;lm 1 2 0;lm 2 3 0;").idlers(0, 3, 1), 4);
+
+        due("23 a tooth over", of("w 12 0;w 8 0;lm 0 1 0;d 0 23;").wear(0, 1), 2);
+        due("23 none over", of("w 12 0;w 8 0;lm 0 1 0;d 0 24;").wear(0, 1), 1);
+        due("24 told from the far end", of("w 3 0;w 3 0;lm 1 0 100;").slips(1, 1), 900000000);
+        due("24 told from the near end", of("w 3 0;w 3 0;lm 0 1 100;").slips(1, 1), 900000000);
+        due("25 rate 30", of("w 3 0;w 3 0;d 0 30;").hidden(1, 1, 30, 0), 1);
+        due("25 rate -30", of("w 3 0;w 3 0;d 0 30;").hidden(1, 0, -30, 0), 1);
+        StringBuilder ten = new StringBuilder("w 3 0;w 3 0;w 3 0;");
+        for (int i = 0; i < 10; i++) {
+            ten.append("lb 0 1 0;");
+        }
+        due("25 beside ten LINKS", of(ten.toString()).hidden(2, 0, 1, NONE), 0);
+        due("25 beside ten LINKS", of(ten.toString()).hidden(2, 0, -1, NONE), 2);
+        due("25 beside ten LINKS", of(ten.toString()).hidden(2, 0, -1, 1), 102);
+
+        // 1 of 10 teeth a day backwards: at 2, then at 1, then at 0, by any TEETH
+        x = of("w 30 0; w 4 3; w 3 0; la 0 2 0; lm 2 1 0;");
+        due("28 unlike today alone", x.look(1), NONE);
+        // from 2 to 3 on the thirtieth day, where 3 TEETH are at 0
+        x = of("w 30 0; w 3 0; w 9 0; w 3 0; w 10 2; la 0 1 0; lb 1 2 0; la 2 3 0; lb 3 4 0;");
+        due("28 1 of 30 a day", x.wheel(4, 3), 30);
+        due("28 the last day", x.look(4), 30);
+        // the same a day later: 3 of 91 teeth a day
+        x = of("w 28 0; w 3 0; w 13 0; w 4 0; w 10 2; la 0 1 0; lb 1 2 0; la 2 3 0; lb 3 4 0;");
+        due("28 3 of 91 a day", x.wheel(4, 3), 91);
+        due("28 a day too late", x.look(4), NONE);
+        // 9 for either, then 10, 11: 12 parts 3 from 9
+        x = of("w 9 8;");
+        x.stood(0, 1, 0);
+        due("27 divisors of 9", x.teeth(0, NONE), 2);
+        due("28 parts two", x.look(0), 4);
+        due("29 the last place", of("w 30 0;").write(0, 0, 29), 1);
+    }
+
     private static void promise10to14() {
         CogFamily x = of(FAMILY);
         due("10 low", x.days(0), OUTSIDE);
@@ -646,7 +763,10 @@ public final class PromiseTests {
         promise3whatStays();
         faults();
         promise5to9();
+        moreOf3to9();
         promise10to14();
+        moreOf10to14();
+        moreOf15to28();
         promise13drift();
         promise15to18();
         promise19to22();
