@@ -568,6 +568,42 @@ public final class EdgeTests {
         refuses("FULL", TOO_LATE_AND_EMPTY, "days 1");
     }
 
+    private static void refusedInARow() {
+        says("What is refused changes nothing.");
+        String all = """
+            feed 256
+            told 15
+            wheel 5 0
+            link 2 5
+            feast 3 0
+            stands 0 100000
+            days 10000
+            cut 3 true
+            slip 0 100
+            drift 0
+            undo 31
+            next 3
+            together 8
+            added 0 30 0 NONE
+            alike 1 1
+            idlers 0 1 2
+            free 2
+            rest 32 0
+            wear 1 0
+            slips 0 100
+            hidden 0 0 1 NONE
+            stood 0 1000 0
+            teeth 5 NONE
+            look 5
+            write 0 0 30
+            seed -1
+            keep 2
+            goBack 2
+            """;
+        asItWas(HALF_RICH, all + all, LATER);
+        asItWas(RICH, all + all + "stood 0 0 0\nwrite 0 0 0\n", LATER);
+    }
+
     private static void unknownOnes() {
         says("UNKNOWN (a WHEEL, LINK, FEAST, IMAGE that there is not; one twice; bits of such)");
         String[] wheels = {"wheel # 0", "stands # 0", "slip # 0", "added # 0 0 NONE", "alike # 0", "alike 0 #", "idlers # 0 0",
@@ -1090,6 +1126,8 @@ public final class EdgeTests {
             next 2 = 0
             next 0 = 9000
             """);
+        says("NEXT; NONE. UNKNOWN.");
+        refuses("UNKNOWN", "next -1\nnext 3\nnext LOW\nnext HIGH");
         holds(FAMILY, """
             next 0 = 2
             next 1 = NONE
@@ -1117,6 +1155,8 @@ public final class EdgeTests {
             days 9999
             together 15 = 90000
             """);
+        says("TOGETHER; NONE. UNKNOWN.");
+        refuses("UNKNOWN", "together 8\ntogether 15\ntogether LOW\ntogether -1\ntogether 1073741824");
         holds(FAMILY, """
             together 5 = 2
             together 4 = 0
@@ -1150,6 +1190,8 @@ public final class EdgeTests {
             again = NONE: w14 0;w11 0;w9 0;w17 0;w23 0;w25 0;w28 0;w29 0;la0 1 0;lm1 2 0;lm1 3 0;lm1 4 0;lm1 5 0;lm1 6 0;lm1 7 0;
             again = NONE: w30 0;w29 0;w28 0;w27 0;w25 0;w23 0;w19 0;w17 0;lm0 1 0;lm1 2 0;lm1 3 0;lm1 4 0;lm1 5 0;lm1 6 0;lm1 7 0;
             """);
+        says("AGAIN; NONE.");
+        holds(FAMILY, "again = 8\ncut 1 true\nagain = 8\ncut 0 true\nagain = 4");
         holds(BOUND, "again = NONE");
         holds(NEW, "again = NONE");
     }
@@ -1188,6 +1230,8 @@ public final class EdgeTests {
             days 1
             added 2 0 1 NONE = 28
             """);
+        says("ADDED: i = NONE how many, else the i-th; NONE. UNKNOWN, OUTSIDE.");
+        refuses("UNKNOWN", "added -1 0 0 NONE\nadded 5 0 0 NONE\nadded 5 0 0 0");
         refuses("OUTSIDE", """
             added 0 -1 0 NONE
             added 0 30 0 NONE
@@ -1456,7 +1500,10 @@ public final class EdgeTests {
             tear = 12
             stood 0 0 0 = 1
             """);
+        says("STOOD: how much. UNKNOWN, OUTSIDE, FULL (12).");
+        holds(HALF_RICH, "stood 4 999 29 = 11\nstood 0 0 0 = 12\nstood 1 1 1 = FULL\ntold 11 = 12");
         refuses("FULL", RICH, "stood 4 0 0\nstood 0 999 29");
+        refuses("UNKNOWN", "stood 5 0 0\nstood -1 0 0");
         refuses("OUTSIDE", """
             stood 4 -1 0
             stood 4 1000 0
@@ -1518,6 +1565,12 @@ public final class EdgeTests {
             teeth 1 NONE = 1
             """);
 
+        says("TEETH that fit: i = NONE how many, else the i-th; NONE. UNKNOWN.");
+        refuses("UNKNOWN", "teeth 5 NONE\nteeth -1 NONE\nteeth 5 0");
+        holds(FAMILY, "teeth 0 NONE = 28\nteeth 0 0 = 3\nteeth 0 27 = 30\nteeth 0 28 = NONE\nteeth 0 -2 = NONE");
+        says("LOOK; NONE. UNKNOWN.");
+        refuses("UNKNOWN", "look 5\nlook -1\nlook HIGH");
+        holds(FAMILY, "look 0 = 15\nlook 4 = NONE\nstood 0 0 1\nlook 0 = NONE");
         says("LOOK: the day of 1 to 30 on which those that fit stand most unlike: the greatest part that stands alike is least; of like ones "
             + "the least; NONE: none parts them.");
         holds("text w30 0;w3 0;w9 0;w3 0;w10 2;la0 1 0;lb1 2 0;la2 3 0;lb3 4 0;\nclock\n", """
@@ -1583,7 +1636,10 @@ public final class EdgeTests {
             days 29
             judge = 0
             """);
+        says("A line behind THE BOOK: how many. UNKNOWN, OUTSIDE, FULL (15).");
+        holds(HALF_RICH, "write 4 99999 29 = 14\nwrite 0 0 0 = 15\nwrite 1 1 1 = FULL\ntold 12 = 15");
         refuses("FULL", RICH, "write 4 0 0\nwrite 0 99999 29");
+        refuses("UNKNOWN", "write 5 0 0\nwrite -1 0 0");
         refuses("OUTSIDE", """
             write 4 -1 0
             write 4 100000 0
@@ -1594,6 +1650,8 @@ public final class EdgeTests {
             write 4 0 LOW
             write 4 0 HIGH
             """);
+        says("WRONG; NONE.");
+        holds(FAMILY, "judge = NONE\nwrite 4 0 1\njudge = NONE\nwrite 4 0 0\njudge = 1\nslip 4 -1\njudge = 0");
         says("Nothing STOOD, no BOOK: how much both had.");
         holds(RICH, """
             tear = 27
@@ -1866,6 +1924,13 @@ public final class EdgeTests {
             told 7 = 1
             wheel 0 2 = 1
             wheel 1 0 = UNKNOWN
+            text w9 0;w5 0;
+            clock = 2
+            told 1 = 0
+            told 2 = 0
+            told 6 = 0
+            told 7 = 1
+            wheel 1 2 = 0
             text w9 0;d0 5;
             clock = 1
             told 7 = 5
@@ -1946,9 +2011,32 @@ public final class EdgeTests {
             fault = NONE
             """);
 
-        says("13 deeds that can be undone, 14 FEASTS of today (a SET). OUTSIDE.");
+        says("0 WHEELS, 1 LINKS, 2 FEASTS, 3 letters of THE TEXT, 4 the day, 5 THE MARK, 6 the driven WHEEL (NONE without), 7 R, "
+            + "8 whether it BINDS (1, 0), 9 LINKS that are CUT (a SET), 10 WHEELS that turn (a SET), 11 what STOOD, 12 lines of THE BOOK, "
+            + "13 deeds that can be undone, 14 FEASTS of today (a SET). OUTSIDE.");
         refuses("OUTSIDE", "told -1\ntold 15\ntold LOW\ntold HIGH");
         holds(FAMILY, "told 0 = 5\ntold 14 = 4\ntold 15 = OUTSIDE");
+        holds(HALF_RICH, """
+            told 0 = 5
+            told 1 = 3
+            told 2 = 3
+            told 3 = 7
+            told 4 = 8
+            told 5 = 7
+            told 6 = 0
+            told 7 = 3
+            told 8 = 0
+            told 9 = 4
+            told 10 = 7
+            told 11 = 10
+            told 12 = 13
+            told 13 = 29
+            told 14 = 0
+            slip 4 1
+            told 14 = 4
+            """);
+        holds(RICH, "told 9 = 0\ntold 10 = 15\ntold 11 = 12\ntold 12 = 15\ntold 13 = 30");
+        holds(BOUND_RICH, "told 6 = 0\ntold 8 = 1\ntold 9 = 8\ntold 10 = 0\ntold 13 = 5");
         says("Of a WHEEL: what = 0 TEETH, 1 PLACE today, 2 RATE above (below 0: the other way), 3 RATE below. UNKNOWN, OUTSIDE.");
         refuses("OUTSIDE", "wheel 0 -1\nwheel 4 4\nwheel 0 LOW\nwheel 0 HIGH");
         holds(FAMILY, "wheel 0 0 = 12\nwheel 2 3 = 2\nwheel 4 0 = 9\nwheel 4 3 = 1");
@@ -2024,6 +2112,9 @@ public final class EdgeTests {
         refuses("NOT", "wear 1 0\nwear 1 1");
         refuses("NOT", BOUND_RICH, "wear 3 0\nwear 3 1");
         says("odds that no LINK by which a WHEEL is driven SLIPS in n days (0 .. 99)");
+        holds(FAMILY, "slips 1 0 = 1000000000\nslips 1 2 = 990025000\nslips 4 0 = 0\nslips 1 100 = OUTSIDE");
+        says("SLIPS. UNKNOWN, OUTSIDE.");
+        refuses("UNKNOWN", "slips -1 0\nslips 5 0");
         refuses("OUTSIDE", "slips 0 -1\nslips 0 100\nslips 4 LOW\nslips 4 HIGH");
         holds(FAMILY, "slips 1 99 = 608814470");
     }
@@ -2032,6 +2123,7 @@ public final class EdgeTests {
         document = Files.readString(Path.of("..", "shared", "DOC.md"), StandardCharsets.UTF_8);
         terms();
         orderOfRefusals();
+        refusedInARow();
         unknownOnes();
         wheelsAndLinks();
         drivenAndFeasts();
