@@ -1718,6 +1718,7 @@ public final class EdgeTests {
         refuses("NOT", BOUND_RICH, "drift 1\ndrift 99");
         refuses("NOT", NEW, "drift 1\ndrift 99");
         refuses("FULL", TOO_LATE, "drift 1\ndrift 99");
+        refuses("FULL", LATE + "days 1\n", "drift 1");
         holds(LATE, "told 4 = 900000\ndrift 99 = 900099\ndrift 1 = FULL\nundo 1 = 900000\ndrift 1 = 900001\ndrift 1 = FULL");
         says("THE SEED becomes v (0 .. 2147483647): what it was. OUTSIDE.");
         holds(NEW, "seed HIGH = 0\nseed 0 = HIGH\nseed 1 = 0\nseed -1 = OUTSIDE\nseed 2 = 1");
@@ -1805,6 +1806,7 @@ public final class EdgeTests {
         says("The n latest deeds (1 .. 30) are undone: the day. OUTSIDE, NOT: not so many.");
         refuses("OUTSIDE", "undo 0\nundo 31\nundo -1\nundo LOW\nundo HIGH");
         refuses("NOT", HALF_RICH, "undo 30");
+        refuses("NOT", BOUND_RICH, "undo 6");
         refuses("NOT", FAMILY, "undo 1\nundo 30");
         refuses("NOT", NEW, "undo 1");
         holds(HALF_RICH, "told 13 = 29\nundo 29 = 7\ntold 13 = 0");
@@ -2060,6 +2062,7 @@ public final class EdgeTests {
         refuses("OUTSIDE", "days 0\ndays 10000\ndays -1\ndays LOW\ndays HIGH");
         refuses("NOT", BOUND_RICH, "days 1\ndays 9999");
         refuses("FULL", TOO_LATE, "days 1\ndays 9999");
+        refuses("FULL", LATE + "days 1\n", "days 1");
 
         says("A LINK is CUT (is), or put ON: 1 it was ON, 0 not; nothing is done (no deed), if it is so already. UNKNOWN.");
         holds(HALF_RICH, """
