@@ -49,6 +49,7 @@ public final class CogFamily {
         // the old one is used again, so that a new clock costs no objects
         spare = old;
         beginClock();
+        reckonNow();
         return works.wheels;
     }
 
@@ -72,7 +73,7 @@ public final class CogFamily {
             case 11: return seen.count;
             case 12: return book.count;
             case 13: return deeds.kept;
-            case 14: return feastsIn(0);
+            case 14: return feastsToday();
             default: return OUTSIDE;
         }
     }
@@ -439,8 +440,8 @@ public final class CogFamily {
         return hasWheel(a) && hasWheel(b) && a != b;
     }
 
-    /** Whether a SET has a bit that stands for nothing (the sign's bit too). */
     private static boolean hasBitsBeyond(int set, int count) {
+        // the sign moves along, so a SET below 0 has such a bit
         return (set >> count) != 0;
     }
 
@@ -465,7 +466,6 @@ public final class CogFamily {
         for (int i = 0; i < IMAGES; i++) {
             images[i].kept = false;
         }
-        reckonNow();
     }
 
     private void reckonNow() {
@@ -477,12 +477,11 @@ public final class CogFamily {
         return (int) leftOver(now.places[w] + turnedIn(w, since), works.teeth[w]);
     }
 
-    /** Teeth by which a WHEEL turns in so many days, cut downwards. */
     private long turnedIn(int w, long days) {
         return floorPart(motion.above[w] * days, motion.below[w]);
     }
 
-    /** All stand from today on as their PLACES are, parts of teeth are lost. */
+    /** Parts of teeth are lost by it. */
     private void setMark() {
         for (int w = 0; w < works.wheels; w++) {
             now.places[w] = placeIn(w, 0);
@@ -502,21 +501,31 @@ public final class CogFamily {
 
     // ---- feasts
 
-    private int feastsIn(int n) {
+    private int feastsToday() {
         int set = 0;
         for (int f = 0; f < works.feasts; f++) {
-            if (placeIn(works.feastWheels[f], n) == works.feastPlaces[f]) {
+            if (areAllIn(0, 1 << f)) {
                 set |= 1 << f;
             }
         }
         return set;
     }
 
+    /** Whether all FEASTS of a SET are in n days. */
+    private boolean areAllIn(int n, int set) {
+        for (int f = 0; f < works.feasts; f++) {
+            if ((set >> f & 1) == 1 && placeIn(works.feastWheels[f], n) != works.feastPlaces[f]) {
+                return false;
+            }
+        }
+        return true;
+    }
+
     /** In how many days, most at most, all FEASTS of a SET are. */
     private int dayOfAll(int set, int most) {
         int leader = leaderOf(set);
         if (leader == NONE) {
-            return (feastsIn(0) & set) == set ? 0 : NONE;
+            return areAllIn(0, set) ? 0 : NONE;
         }
         // behind a whole round the same days come again
         long last = Math.min(most, roundOf(wheelsOf(set)) - 1);
@@ -528,7 +537,7 @@ public final class CogFamily {
         long at = leftOver(now.places[w] * parts + motion.above[w] * ((long) now.day - now.mark), circle);
         long from = works.feastPlaces[leader] * parts;
         for (int n = 0; n <= last; n++) {
-            if (at >= from && at < from + parts && (feastsIn(n) & set) == set) {
+            if (at >= from && at < from + parts && areAllIn(n, set)) {
                 return n;
             }
             at += step;
@@ -1024,7 +1033,8 @@ public final class CogFamily {
                 return;
             }
             reach(works.driven, works.teethADay, 1);
-            for (int i = 0; i < reached && !binds; i++) {
+            // more are reached as it spreads, each of them once
+            for (int i = 0; i < MOST_WHEELS && i < reached && !binds; i++) {
                 spread(works, row[i], on, idlers);
             }
             if (binds) {

@@ -2,8 +2,11 @@ import com.sun.source.tree.AssertTree;
 import com.sun.source.tree.BinaryTree;
 import com.sun.source.tree.ClassTree;
 import com.sun.source.tree.CompilationUnitTree;
+import com.sun.source.tree.DoWhileLoopTree;
+import com.sun.source.tree.ForLoopTree;
 import com.sun.source.tree.ImportTree;
 import com.sun.source.tree.LambdaExpressionTree;
+import com.sun.source.tree.LiteralTree;
 import com.sun.source.tree.MemberReferenceTree;
 import com.sun.source.tree.MemberSelectTree;
 import com.sun.source.tree.MethodInvocationTree;
@@ -14,6 +17,7 @@ import com.sun.source.tree.ThrowTree;
 import com.sun.source.tree.Tree;
 import com.sun.source.tree.TryTree;
 import com.sun.source.tree.VariableTree;
+import com.sun.source.tree.WhileLoopTree;
 import com.sun.source.util.JavacTask;
 import com.sun.source.util.SourcePositions;
 import com.sun.source.util.TreePathScanner;
@@ -31,7 +35,9 @@ import javax.lang.model.element.Element;
 import javax.lang.model.element.ElementKind;
 import javax.lang.model.element.Modifier;
 import javax.lang.model.element.TypeElement;
+import javax.lang.model.type.ArrayType;
 import javax.lang.model.type.TypeKind;
+import javax.lang.model.type.TypeMirror;
 import javax.tools.JavaCompiler;
 import javax.tools.StandardJavaFileManager;
 import javax.tools.ToolProvider;
@@ -126,6 +132,44 @@ public final class LanguageRules extends TreePathScanner<Void, Void> {
         }
         wrongIf(!isTop && FACE.contains(name), 1, method, name + " is a public one's name");
         wrongIf(Set.of("equals", "hashCode", "toString").contains(name), 6, method, name);
+    }
+
+    /** Whether rule 3 leaves a type: the program needs neither lists nor texts nor doubles. */
+    private static boolean isLeft(TypeMirror type) {
+        if (type.getKind() == TypeKind.ARRAY) {
+            TypeMirror element = ((ArrayType) type).getComponentType();
+            return element.getKind() != TypeKind.ARRAY && isLeft(element);
+        }
+        return Set.of(TypeKind.INT, TypeKind.LONG, TypeKind.CHAR, TypeKind.BOOLEAN).contains(type.getKind())
+            || type.toString().startsWith("CogFamily.");
+    }
+
+    @Override public Void visitVariable(VariableTree tree, Void none) {
+        TypeMirror type = trees.getTypeMirror(getCurrentPath());
+        wrongIf(type == null || !isLeft(type), 3, tree, "type " + tree.getType());
+        return super.visitVariable(tree, none);
+    }
+
+    @Override public Void visitLiteral(LiteralTree tree, Void none) {
+        if (tree.getValue() instanceof String text) {
+            wrongIf(text.chars().anyMatch(sign -> sign < 1 || sign > 127), 4, tree, "a sign beyond 127");
+        }
+        return super.visitLiteral(tree, none);
+    }
+
+    @Override public Void visitForLoop(ForLoopTree tree, Void none) {
+        wrongIf(tree.getCondition() == null || tree.getUpdate().isEmpty(), 9, tree, "a loop without an end in sight");
+        return super.visitForLoop(tree, none);
+    }
+
+    @Override public Void visitWhileLoop(WhileLoopTree tree, Void none) {
+        wrongIf(!tree.getCondition().toString().contains(" < "), 9, tree, "a loop without an end in sight");
+        return super.visitWhileLoop(tree, none);
+    }
+
+    @Override public Void visitDoWhileLoop(DoWhileLoopTree tree, Void none) {
+        wrongIf(!tree.getCondition().toString().contains(" < "), 9, tree, "a loop without an end in sight");
+        return super.visitDoWhileLoop(tree, none);
     }
 
     @Override public Void visitMethod(MethodTree tree, Void none) {
