@@ -589,36 +589,47 @@ public final class CogFamily {
     // ---- fewest links
 
     private int fewestIdlers(int a, int b) {
-        int on = linksOn();
-        int allowed = on & works.linksThatMesh();
-        int best = NONE;
-        for (int set = 0; set <= allowed; set++) {
-            if ((set & ~allowed) == 0 && isFewer(set, best)) {
-                trial.reckon(works, on, set);
-                if (trial.turns(a) && trial.turns(b) && trial.turnAlike(a, b)) {
-                    best = set;
-                }
+        int allowed = linksOn() & works.linksThatMesh();
+        int best = allowed;
+        // with an idler at each of them nobody turns the other way: if two do not turn alike then, they never do
+        if (!wouldTurnAlike(a, b, allowed)) {
+            return NONE;
+        }
+        for (int set = 0; set < allowed; set++) {
+            if (isFewer(set, best, allowed) && wouldTurnAlike(a, b, set)) {
+                best = set;
             }
         }
         return best;
+    }
+
+    private boolean wouldTurnAlike(int a, int b, int idlers) {
+        trial.reckon(works, linksOn(), idlers);
+        return trial.turns(a) && trial.turns(b) && trial.turnAlike(a, b);
     }
 
     private int fewestCuts(int resting) {
         int on = linksOn();
-        int best = NONE;
-        for (int set = 0; set <= on; set++) {
-            if ((set & ~on) == 0 && isFewer(set, best)) {
-                trial.reckon(works, on & ~set, 0);
-                if (!trial.binds && (trial.turning & resting) == 0) {
-                    best = set;
-                }
+        int best = on;
+        // without any LINK the driven one turns alone, and nothing keeps it
+        if ((resting >> works.driven & 1) == 1) {
+            return NONE;
+        }
+        for (int set = 0; set < on; set++) {
+            if (isFewer(set, best, on) && wouldRest(resting, set)) {
+                best = set;
             }
         }
         return best;
     }
 
-    private static boolean isFewer(int set, int best) {
-        return best == NONE || Integer.bitCount(set) < Integer.bitCount(best);
+    private boolean wouldRest(int resting, int cuts) {
+        trial.reckon(works, linksOn() & ~cuts, 0);
+        return !trial.binds && (trial.turning & resting) == 0;
+    }
+
+    private static boolean isFewer(int set, int best, int allowed) {
+        return (set & ~allowed) == 0 && Integer.bitCount(set) < Integer.bitCount(best);
     }
 
     private static int howManyOrWhich(int set, int what) {
